@@ -28,6 +28,8 @@ public final class ActionsTest {
         promise18Fines();
         promise18TypesInOrder();
         promise18TypesOnWithinASlot();
+        promise18WhatIsLeftOnTheDesk();
+        promise18ManyTranscripts();
         promise18OnLeave();
         promise18Refusals();
         promise19Set();
@@ -467,6 +469,54 @@ public final class ActionsTest {
         Check.same("desk 1", Check.desk(x, 1), "");
         Check.is("only pages that are there", x.about(10), 43);
         Check.is("done", x.about(9), 4);
+    }
+
+    private static void promise18WhatIsLeftOnTheDesk() {
+        StenoRooms x = Check.staff(1, 1);
+        Check.held(x, 0, 0, 0, 0, 4, 2);
+        Check.held(x, 1, 1, 0, 0, 9, 9);
+        Check.held(x, 0, 0, 0, 4, 4, 2);
+        Check.held(x, 0, 0, 0, 8, 8, 2);
+        x.run(1);
+        x.set(2, 4);
+        Check.held(x, 0, 0, 1, 0, 8, 3);
+        Check.same("desk 0", Check.desk(x, 0), "8:2 8:2 16:2");
+        Check.same("desk 1", Check.desk(x, 1), "74:2");
+        x.run(1);
+        Check.same("desk 0", Check.desk(x, 0), "8:2 16:2 24:5");
+        Check.same("desk 1", Check.desk(x, 1), "58:2");
+        x.run(2);
+        Check.same("desk 0", Check.desk(x, 0), "16:5");
+        Check.same("desk 1", Check.desk(x, 1), "26:2");
+    }
+
+    /** There is no limit on the transcripts. */
+    private static void promise18ManyTranscripts() {
+        StenoRooms x = Check.staff(1, 20);
+        for (int day = 0; day < 20; day++) {
+            for (int slot = 0; slot < 16; slot++) {
+                Check.held(x, 0, 0, day, slot, 1, 1 + slot % 9);
+            }
+            x.run(1);
+        }
+        Check.is("transcripts", x.stenographer(0, 3), 320);
+        Check.is("pages", x.stenographer(0, 4), 20 * 73);
+        Check.is("fines", x.about(8), 5 * 16 * (18 * 19 / 2));
+        for (int i = 0; i < 320; i++) {
+            Check.is("pages of transcript " + i, x.transcript(0, i, 0), 1 + i % 16 % 9);
+            Check.is("day of transcript " + i, x.transcript(0, i, 1), i / 16 + 2);
+        }
+        String many = Check.state(x);
+        x.save(0);
+        x.run(30);
+        x.undo();
+        Check.same("behind undo()", Check.state(x), many);
+        x.run(30);
+        x.restore(0);
+        Check.same("behind restore()", Check.state(x), many);
+        x.run(1);
+        Check.is("done", x.about(9), 5);
+        Check.is("emptyIn(0)", x.emptyIn(0), StenoRooms.NONE);
     }
 
     private static void promise18OnLeave() {

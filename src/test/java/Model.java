@@ -159,14 +159,7 @@ final class Model {
         int out = 0;
         int at = 1;
         while (at < text.length()) {
-            int length = " a n  g   s".length();
-            switch (text.charAt(at)) {
-                case 'a': length = 1; break;
-                case 'd': length = 2; break;
-                case 'n': length = 3; break;
-                case 'g': length = 4; break;
-                default: length = 8;
-            }
+            int length = new int[] {1, 2, 3, 4, 8}["adngs".indexOf(text.charAt(at))];
             String word = text.substring(at, at + length);
             at += length;
             out += succeeds(() -> command(state, word)) ? 0 : 1;

@@ -34,18 +34,53 @@ public final class ModelTest {
         }
     }
 
+    /** Kind 0 mostly asks, 1 mostly adds sessions, 2 to 4 are full of slow work, 5 begins with nothing and writes texts. */
     private boolean agrees(int kind) {
         boolean same = true;
         if (kind != 5) {
             same = call("hire", 1 + below(20)) && call("hire", 1 + below(4)) && call("set", 0, 4 + below(13));
         }
+        if (kind >= 2 && kind <= 4) {
+            same = same && call("set", 1, 8 + below(9)) && call("set", 2, below(4)) && call("set", 3, 1 + below(99));
+        }
         while (same && calls < CALLS) {
-            same = kind == 0 ? query() : kind == 1 && below(3) > 0 ? call("session", sessionArguments()) : step();
+            switch (kind) {
+                case 0: same = below(6) > 0 ? query() : step(); break;
+                case 1: same = below(3) > 0 ? call("session", sessionArguments()) : step(); break;
+                case 5: same = below(8) == 0 ? textStep() : step(); break;
+                default: same = below(3) > 0 ? work() : step(); break;
+            }
         }
         if (!same) {
             System.out.println(log);
         }
         return same;
+    }
+
+    /** Long sessions, mostly given, and days that go by. */
+    private boolean work() {
+        int today = model.about(2);
+        switch (below(12)) {
+            case 0: return call("giveAll");
+            case 1: return call("run", 1);
+            case 2: return call("give", near(model.about(1)), near(model.about(0)));
+            case 3: return call("extend", near(model.about(1)), 1 + below(4));
+            case 4: return query();
+            case 5: return deskQuery();
+            default:
+                int first = below(16);
+                int slots = Math.min(16 - first, 1 + below(7));
+                return call("session", below(5), today + below(2) * below(4), first, slots, 5 + below(5));
+        }
+    }
+
+    private boolean deskQuery() {
+        switch (below(4)) {
+            case 0: return call("emptyIn", near(model.about(0)));
+            case 1: return call("ifHired", 1 + near(20), 1 + near(30));
+            case 2: return call("coming", 1 + near(60), near(4));
+            default: return everything();
+        }
     }
 
     /** As many transcripts as 512 calls can bring: they are never typed. */
@@ -77,7 +112,7 @@ public final class ModelTest {
 
     /** Mostly a number below n, now and then one that is not. */
     private int near(int n) {
-        int dice = below(40);
+        int dice = below(120);
         return dice == 0 ? -1 : dice == 1 ? n : dice == 2 ? odd() : below(Math.max(n, 1));
     }
 
@@ -86,10 +121,10 @@ public final class ModelTest {
         return odd[below(odd.length)];
     }
 
-    private int[] sessionArguments() {
+    private long[] sessionArguments() {
         int today = model.about(2);
         int first = near(16);
-        return new int[] {near(5), below(30) == 0 ? odd() : today + below(4) - (below(40) == 0 ? 1 : 0), first,
+        return new long[] {near(5), below(30) == 0 ? odd() : today + below(4) - (below(40) == 0 ? 1 : 0), first,
             below(20) == 0 ? 17 - first : 1 + near(below(3) == 0 ? 16 - (first & 15) : 5), 1 + near(9)};
     }
 
@@ -106,11 +141,11 @@ public final class ModelTest {
             case 6: return call("giveAll");
             case 7: return call("extend", near(sessions), 1 + near(below(3) == 0 ? 16 : 3));
             case 8: return below(3) > 0 || call("leave", near(staff), near(below(5) == 0 ? 31 : 4));
-            case 9: return call("run", below(20) == 0 ? 1 + near(30) : 1);
+            case 9: return call("run", below(30) == 0 ? 1 + near(30) : 1);
             case 10: return call("set", near(4), below(3) == 0 ? near(100) : near(17));
             case 11: return below(2) > 0 || call("undo");
             case 12: return below(4) > 0 || call(below(2) == 0 ? "save" : "restore", near(2));
-            case 13: return textStep();
+            case 13: return below(6) > 0 || textStep();
             default: return query();
         }
     }
@@ -147,8 +182,8 @@ public final class ModelTest {
             case 1: return call("stenographer", near(staff), near(7));
             case 2: return call("sessionOf", near(sessions), near(6));
             case 3:
-                int p = below(Math.max(staff, 1));
-                return call("transcript", near(staff), near(staff == 0 ? 1 : model.stenographer(p, 3)), near(2));
+                int p = near(staff);
+                return call("transcript", p, near(p >= 0 && p < staff ? model.stenographer(p, 3) : 1), near(2));
             case 4: return call("setting", near(4));
             case 5: return call("whyNot", near(sessions), near(staff));
             case 6: return call("whom", near(sessions));
@@ -210,24 +245,8 @@ public final class ModelTest {
         return same;
     }
 
-    private boolean call(String name, int... v) {
-        long[] w = new long[v.length];
-        for (int i = 0; i < v.length; i++) {
-            w[i] = v[i];
-        }
-        return call(name, w);
-    }
-
-    private boolean call(String name, long seedOrCount, int other) {
-        return call(name, new long[] {seedOrCount, other});
-    }
-
-    private boolean call(String name, int count, long script) {
-        return call(name, new long[] {count, script});
-    }
-
     /** Makes a call on both; whether their answers are the same. */
-    private boolean call(String name, long[] v) {
+    private boolean call(String name, long... v) {
         if (calls >= CALLS) {
             return true;
         }

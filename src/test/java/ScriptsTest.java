@@ -40,14 +40,13 @@ public final class ScriptsTest {
         failsAtOnce(x, 10161);
         failsAtOnce(x, 10152);
         failsAtOnce(x, 10000);
-        failsAtOnce(x, 12089 + 90);
+        failsAtOnce(x, 12179);
         x.session(1, 0, 4, 4, 1);
         failsAtOnce(x, 11071);
         succeeds(x, 11081);
         succeeds(x, 12071);
         x.run(1);
         succeeds(x, 11071);
-        // The session is today's, with 3 pages a slot: 2 slots are 6 pages, of which 14 slots type 6.
         x.hire(1);
         script(x, 3, 10002_30000_60001L, NONE);
         x.session(1, 1, 0, 6, 1);

@@ -208,7 +208,15 @@ public final class TextTest {
         x.session(0, 0, 0, 1, 1);
         x.session(0, 3, 0, 1, 1);
         x.run(3);
-        x.give(0, StenoRooms.NONE);
+        x.leave(0, 0);
+        x.set(2, 0);
+        x.set(0, 16);
+        x.set(1, 16);
+        x.session(1, 3, 1, 14, 9);
+        x.session(2, 4, 0, 1, 1);
+        x.giveAll();
+        x.run(1);
+        Check.same("before it", Check.about(x, 0, 10), "1 1 4 0 1 118 1 37 8 1 9");
         x.save(0);
         x.save(1);
         Check.write(x, "Jn09");
