@@ -251,57 +251,21 @@ public final class ModelTest {
             return true;
         }
         calls++;
-        String got = answer(() -> onProgram(name, v));
-        String due = answer(() -> onModel(name, v));
-        log.append(name).append(java.util.Arrays.toString(v)).append(" = ").append(got).append('\n');
+        Call call = Call.of(name, v);
+        String got = call.answer(program);
+        String due = onModelOrException(name, v);
+        log.append(call).append(" = ").append(got).append('\n');
         if (!got.equals(due)) {
             log.append("  due is ").append(due);
         }
         return got.equals(due);
     }
 
-    private static String answer(Check.Call call) {
+    private String onModelOrException(String name, long[] v) {
         try {
-            return Integer.toString(call.answer());
+            return Integer.toString(onModel(name, v));
         } catch (RuntimeException e) {
-            return e.getClass().getName();
-        }
-    }
-
-    private int onProgram(String name, long[] w) {
-        StenoRooms x = program;
-        int[] v = ints(w);
-        switch (name) {
-            case "append": return x.append(v[0]);
-            case "clearText": return x.clearText();
-            case "errorPosition": return x.errorPosition();
-            case "load": return x.load();
-            case "about": return x.about(v[0]);
-            case "stenographer": return x.stenographer(v[0], v[1]);
-            case "sessionOf": return x.sessionOf(v[0], v[1]);
-            case "transcript": return x.transcript(v[0], v[1], v[2]);
-            case "setting": return x.setting(v[0]);
-            case "hire": return x.hire(v[0]);
-            case "session": return x.session(v[0], v[1], v[2], v[3], v[4]);
-            case "cancel": return x.cancel(v[0]);
-            case "give": return x.give(v[0], v[1]);
-            case "giveAll": return x.giveAll();
-            case "extend": return x.extend(v[0], v[1]);
-            case "leave": return x.leave(v[0], v[1]);
-            case "run": return x.run(v[0]);
-            case "set": return x.set(v[0], v[1]);
-            case "undo": return x.undo();
-            case "whyNot": return x.whyNot(v[0], v[1]);
-            case "whom": return x.whom(v[0]);
-            case "coming": return x.coming(v[0], v[1]);
-            case "emptyIn": return x.emptyIn(v[0]);
-            case "ifHired": return x.ifHired(v[0], v[1]);
-            case "freeRoom": return x.freeRoom(v[0], v[1], v[2]);
-            case "runScript": return x.runScript(v[0], w[1]);
-            case "simulate": return x.simulate(w[0], v[1]);
-            case "save": return x.save(v[0]);
-            case "restore": return x.restore(v[0]);
-            default: throw new AssertionError(name);
+            return Call.exception(e);
         }
     }
 
