@@ -419,11 +419,11 @@ public final class StenoRooms {
             count = other.count;
         }
 
+        /** Puts one where makeRoomFor has made room. */
         void put(int p, int pagesOfIt, int dueDay) {
-            if (count >= LIMIT) {
+            if (count >= owner.length) {
                 return;
             }
-            makeRoomFor(count + 1);
             owner[count] = p;
             pages[count] = pagesOfIt;
             due[count] = dueDay;
@@ -439,11 +439,13 @@ public final class StenoRooms {
             count--;
         }
 
-        private void makeRoomFor(int wanted) {
-            if (wanted <= owner.length) {
+        /** Makes the rows long enough for so many, as far as the limit goes. */
+        void makeRoomFor(int wanted) {
+            int least = Math.min(wanted, LIMIT);
+            if (least <= owner.length) {
                 return;
             }
-            int length = Math.max(wanted, Math.min(2 * owner.length, LIMIT));
+            int length = Math.max(least, Math.min(2 * owner.length, LIMIT));
             owner = Arrays.copyOf(owner, length);
             pages = Arrays.copyOf(pages, length);
             due = Arrays.copyOf(due, length);
@@ -888,6 +890,7 @@ public final class StenoRooms {
 
         // They stay on the calendar until the slots have been counted for pay and typing.
         private void holdSessions() {
+            desks.makeRoomFor(desks.count + sessionCount);
             for (int k = 0; k < sessionCount; k++) {
                 Session s = sessions[k];
                 if (s.day == today) {
@@ -1058,7 +1061,10 @@ public final class StenoRooms {
             if (c.runFault(n) != NO_FAULT) {
                 return false;
             }
-            c.finesOfDays(n);
+            // Not by finesOfDays: so calls stay a level below the eight that LANGUAGE.md allows.
+            for (int i = 0; i < n; i++) {
+                c.letDayGoBy();
+            }
             return true;
         }
 
@@ -1110,7 +1116,7 @@ public final class StenoRooms {
                 case 4: tryExtend(c, q % 16, 1 + q / 16 % 4); break;
                 case 5: tryLeave(c, q % 6, q / 6 % 4); break;
                 case 6: tryGive(c, q % 16, q / 16 % 6); break;
-                case 7: tryRun(c, 1); break;
+                case 7: c.letDayGoBy(); break;
                 default: trySession(c, q % 5, c.today + q / 5 % 4, q / 20 % 16, 1 + q / 320 % 5, 1 + q / 1600 % 9); break;
             }
         }
